@@ -192,6 +192,10 @@ public final class LettersTest {
         choice(x, "any over 2;", 5);
         choice(x, "any over 3;", 0);
         choice(x, "any to b from c;", 3);
+        // Nothing of an earlier rule's conditions is left in a shorter one.
+        choice(x, "any to d over 3 level 9 from d;", 0);
+        choice(x, "any from c;", 3);
+        choice(x, "any from c over 1;", 3);
         choice(x, "test;old;", 5);
         choice(x, "late any;old;", 5);
         choice(x, "late connect;", 0);

@@ -150,7 +150,14 @@ public final class ModelTest {
         same("fault 1", () -> it.fault(1), () -> model.fault(1));
     }
 
-    int some(int n) { return r(12) == 0 ? r(40) - 5 : n > 0 ? r(n) : 0; }
+    int some(int n) {
+        switch (r(60)) {
+            case 0: return random.nextInt();
+            case 1: return r(2) == 0 ? Integer.MAX_VALUE - r(3) : Integer.MIN_VALUE + r(3);
+            case 2: case 3: case 4: case 5: return r(40) - 5;
+            default: return n > 0 ? r(n) : 0;
+        }
+    }
 
     void deed() {
         int nodes = model.world.names.size(), edges = model.world.edges.size();

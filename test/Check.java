@@ -5,15 +5,33 @@ import java.util.NoSuchElementException;
 final class Check {
     interface Call { int answer(); }
 
+    /** Numbers that are no index of anything, but for the ones just behind the last. */
+    static final int[] FAR = {-1, -2, 1000, 1 << 30, Integer.MAX_VALUE, Integer.MIN_VALUE, Integer.MIN_VALUE + 1};
+
     static int wrong = 0;
     static int checked = 0;
+    static String sentence = "";
+
+    /** The sentence of the document that is tested from here on; it is told where a check fails. */
+    static void of(String told) { sentence = told; }
+
+    static void report(String text) {
+        wrong++;
+        System.out.println((sentence.isEmpty() ? "" : "[" + sentence + "] ") + text);
+    }
 
     static void is(String what, int got, int want) {
         checked++;
-        if (got != want) {
-            wrong++;
-            System.out.println(what + " answered " + got + ", due is " + want);
-        }
+        if (got != want) report(what + " answered " + got + ", due is " + want);
+    }
+
+    static void same(String what, String got, String want) {
+        checked++;
+        if (got.equals(want)) return;
+        int i = 0;
+        while (i < got.length() && i < want.length() && got.charAt(i) == want.charAt(i)) i++;
+        int from = Math.max(0, i - 60);
+        report(what + ": .." + got.substring(from, Math.min(got.length(), i + 30)) + ", due is .." + want.substring(from, Math.min(want.length(), i + 30)));
     }
 
     static void is(String what, boolean got, boolean want) { is(what, got ? 1 : 0, want ? 1 : 0); }
@@ -28,8 +46,7 @@ final class Check {
         } catch (RuntimeException e) {
             got = e.toString();
         }
-        wrong++;
-        System.out.println(what + " threw " + got + ", due is NoSuchElementException");
+        report(what + " threw " + got + ", due is NoSuchElementException");
     }
 
     /** Puts a text behind what the tape has. */
@@ -78,6 +95,89 @@ final class Check {
         is("fault(1) of " + text, x.fault(1), lines);
         is("rule kept at " + text, x.count(2), 2);
         is("tape emptied at " + text, x.count(3), 0);
+    }
+
+    static void netTaken(String text, int lines) {
+        AskingFragments x = new AskingFragments();
+        is("net() of " + text, net(x, text), lines);
+        is("fault(0) of " + text, x.fault(0), 0);
+        is("fault(1) of " + text, x.fault(1), -1);
+        is("tape emptied at " + text, x.count(3), 0);
+    }
+
+    static void ruleTaken(String text, int lines) {
+        AskingFragments x = with("node a;node b;edge a b 1;");
+        is("rule() of " + text, rule(x, text), lines);
+        is("fault(0) of " + text, x.fault(0), 0);
+        is("fault(1) of " + text, x.fault(1), -1);
+        is("count(2) of " + text, x.count(2), lines);
+        is("tape emptied at " + text, x.count(3), 0);
+    }
+
+    /** All that is so with the net, told by calls that change nothing. */
+    static String world(AskingFragments x) {
+        StringBuilder b = new StringBuilder();
+        for (int w = 0; w < 11; w++) b.append(" now").append(w).append('=').append(x.now(w));
+        for (int w = 0; w < 7; w++) b.append(" sent").append(w).append('=').append(x.sent(w));
+        for (int w = 0; w < 3; w++) b.append(" count").append(w).append('=').append(x.count(w));
+        b.append(" choice=").append(x.choice()).append(" until=").append(x.until());
+        for (int n = 0; n < x.count(0); n++) {
+            for (int w = 0; w < 11; w++) b.append(" node").append(n).append('.').append(w).append('=').append(x.node(n, w));
+            for (int k = 0; k <= x.node(n, 9); k++) b.append(" waits").append(n).append('=').append(x.waits(n, k, 0)).append(',').append(x.waits(n, k, 1));
+        }
+        for (int e = 0; e < x.count(1); e++) {
+            for (int w = 0; w < 6; w++) b.append(" edge").append(e).append('.').append(w).append('=').append(x.edge(e, w));
+            b.append(" on=").append(x.onWay(2 * e)).append(',').append(x.onWay(2 * e + 1));
+        }
+        for (int k = 0; k < x.now(0); k++) {
+            for (int w = 0; w < 7; w++) b.append(" letter").append(k).append('.').append(w).append('=').append(x.letter(k, w));
+        }
+        return b.toString();
+    }
+
+    /** What other calls told last, and the tape. */
+    static String told(AskingFragments x) {
+        StringBuilder b = new StringBuilder(" fault=").append(x.fault(0)).append(',').append(x.fault(1));
+        b.append(" next=").append(x.nextBy(0)).append(',').append(x.nextBy(1)).append(" tape=").append(x.count(3)).append(" spelled=");
+        for (int i = 0; i < 40; i++) b.append(x.byteAt(i)).append(',');
+        return b.toString();
+    }
+
+    /** A call has this answer, and leaves all as it is. */
+    static void stays(AskingFragments x, String what, Call call, int want) {
+        String before = world(x) + told(x);
+        is(what, call.answer(), want);
+        same("all stays at " + what, world(x) + told(x), before);
+    }
+
+    static void throwsAndStays(AskingFragments x, String what, Call call) {
+        String before = world(x) + told(x);
+        none(what, call);
+        same("all stays at " + what, world(x) + told(x), before);
+    }
+
+    /** Takes what is on these edges, the lower way first, till nothing is. */
+    static void runOver(AskingFragments x, int... edges) {
+        boolean more = true;
+        for (int i = 0; i < 1000 && more; i++) {
+            more = false;
+            for (int e : edges) {
+                for (int way = 2 * e; way <= 2 * e + 1 && !more; way++) {
+                    if (x.onWay(way) > 0) {
+                        x.take(way);
+                        more = true;
+                    }
+                }
+            }
+        }
+    }
+
+    static void node(AskingFragments x, int n, int... want) {
+        for (int w = 0; w < want.length; w++) is("node(" + n + ", " + w + ")", x.node(n, w), want[w]);
+    }
+
+    static void letter(AskingFragments x, int k, int... want) {
+        for (int w = 0; w < want.length; w++) is("letter(" + k + ", " + w + ")", x.letter(k, w), want[w]);
     }
 
     static void spelled(AskingFragments x, int k, String want) {

@@ -129,6 +129,16 @@ public final class BoundsOfActsTest {
         y.weigh(2, 9);
         Check.is("undo of weigh", y.undo(), 0);
         Check.same("as before", Check.world(y), before);
+        // One LETTER is above 0.
+        AskingFragments w = Check.with(CHAIN);
+        w.wake(0);
+        before = Check.world(w);
+        Check.is("a round of one", w.rounds(1), 1);
+        Check.is("undo", w.undo(), 1);
+        Check.same("as before", Check.world(w), before);
+        Check.is("a step", w.steps(1), 1);
+        Check.is("undo", w.undo(), 1);
+        Check.same("as before", Check.world(w), before);
         // take(): DEFERRED ones are undone, too (1 to 3 are not NONE).
         AskingFragments z = Check.with(TRIANGLE);
         z.wake(2);
@@ -263,6 +273,10 @@ public final class BoundsOfActsTest {
             Check.stays(x, "it can't be, and no letter is taken for it", () -> x.drawn(1, seedOf(0, 4, m)), 0);
             Check.is("one act", x.undo(), 0);
         }
+        AskingFragments alone = Check.with("node a;");
+        Check.stays(alone, "nothing to take", () -> alone.drawn(1, seedOf(3, 0, 0)), 0);
+        Check.is("the only node", alone.drawn(1, seedOf(0, 1, 0)), 1);
+        Check.is("is awake", alone.now(6), 1);
         int[] busy = {0, 1, 3, 5};
         for (int eighth = 1; eighth < 8; eighth++) {
             for (int pick = 0; pick < 4; pick++) {

@@ -414,12 +414,46 @@ public final class BoundsOfLettersTest {
         Check.node(x, 2, 2, 1, 0, 2, -1, -1, -1, 0, 0, 0, x.letter(sent - 1, 6));
         Check.is("it does not test, though it has a BASIC edge", x.now(0) - sent, 0);
         Check.is("BASIC", x.edge(4, 3), 0);
+        foundGoesOn();
         AskingFragments y = Check.with(THREE_PAIRS);
         threePairs(y);
         Check.is("c's accept", y.take(2), 0);
         Check.runOver(y, 2, 3, 4);
         Check.is("TOWARD and BEST are none again", y.node(3, 4) + y.node(3, 5) + y.node(4, 4) + y.node(4, 5), -4);
         Check.is("INWARD is the new core", y.node(3, 3) + y.node(4, 3), 6);
+    }
+
+    /** A pair c f of level 1 is let in by b, of level 2, who has FOUND edge 6: c tells f, and EXPECTS nothing for it. */
+    static void foundGoesOn() {
+        AskingFragments x = Check.with("node a;node b;node d;node e;node x;node y;node z;node w;node c;node f;"
+            + "edge a b 1;edge d e 1;edge b d 3;edge x y 1;edge z w 1;edge y z 3;edge b x 5;edge b c 9;edge c f 1;");
+        for (int n = 0; n < 8; n++) x.wake(n);
+        Check.runOver(x, 0, 1, 2);
+        Check.runOver(x, 3, 4, 5);
+        Check.is("x, of level 1, tests b, of level 2", x.take(13), 0);
+        Check.is("b's test waits at x", x.take(12), 1);
+        Check.is("x is accepted", x.take(12), 0);
+        Check.runOver(x, 3, 4, 5);
+        while (x.onWay(13) > 0) x.take(13);
+        Check.is("b is of level 2", x.node(1, 1), 2);
+        Check.runOver(x, 0, 2);
+        Check.is("and has FOUND", x.node(1, 0) * 10 + x.node(1, 5), 26);
+        x.wake(8);
+        Check.runOver(x, 8);
+        while (x.onWay(15) > 0) x.take(15);
+        Check.is("c is accepted", x.take(14), 0);
+        Check.runOver(x, 8);
+        Check.is("c connects", x.onWay(15), 1);
+        Check.is("level 1 to level 2", x.take(15), 0);
+        Check.is("b EXPECTS nothing for it", x.node(1, 7), 0);
+        int sent = x.now(0);
+        Check.is("begin at c", x.take(14), 0);
+        Check.is("one letter", x.now(0) - sent, 1);
+        Check.letter(x, sent, 1, 16, 2, x.node(1, 2), 2, 0, x.node(8, 10) + 1);
+        Check.node(x, 8, 2, 2, x.node(1, 2), 7, -1, -1, -1, 0, 0, 0, x.node(8, 10));
+        Check.is("and at f", x.take(16), 0);
+        Check.node(x, 9, 2, 2, x.node(1, 2), 8, -1, -1, -1, 0, 0, 0, x.node(9, 10));
+        Check.is("f tells none", x.now(0) - sent, 1);
     }
 
     /** Fragment a b that has found edge 1 to d e; c, who sleeps yet, has an edge to b and one to f, who sleeps, too. */

@@ -23,6 +23,7 @@ public final class BoundsOfRuleTest {
         levelIsThat();
         fromAndTo();
         allCondsHold();
+        tenLinesOfFourConds();
         eachKind();
         Check.close();
     }
@@ -223,6 +224,16 @@ public final class BoundsOfRuleTest {
         choice(y, "heavy;", 4);
         choice(y, "heavy;new;", 5);
         choice(y, "late any from a;late any from b;light;", 2);
+        AskingFragments w = Check.with("node a;node b;node c;node d;node e;node f;edge a b 5;edge c d 4;edge e f 4;");
+        for (int n = 0; n < 6; n++) w.wake(n);
+        choice(w, "heavy;", 0);
+        choice(w, "light;", 2);
+        w.again();
+        w.weigh(0, 4);
+        w.weigh(2, 3);
+        for (int n = 0; n < 6; n++) w.wake(n);
+        choice(w, "light;", 4);
+        choice(w, "heavy;", 2);
         AskingFragments z = Check.with("node a;node b;node c;node d;node e;node f;edge a b 98;edge c d 99;edge e f 97;");
         for (int n = 0; n < 6; n++) z.wake(n);
         choice(z, "light;", 4);
@@ -381,6 +392,24 @@ public final class BoundsOfRuleTest {
         choice(x, "any over 1 over 2;", 5);
         choice(x, "any level 0 level 1;old;", 5);
         choice(x, "any from a from b;old;", 5);
+    }
+
+    static void tenLinesOfFourConds() {
+        Check.of("{ LINE ; }, 10 at most .. COND, 4 at most: the last COND of the last LINE holds as the first does");
+        String idle = "any to b to b to b to d;";
+        String[] last = {"any to b to b to b from c;", "any to b to b to b from a;", "any to b from b over 1 to b;", "any to c to c to c from d;"};
+        int[] want = {3, 0, 0, 5};
+        for (int i = 0; i < last.length; i++) {
+            AskingFragments x = four();
+            choice(x, idle.repeat(9) + last[i], want[i]);
+            Check.is("ten", x.count(2), 10);
+            x.image(0);
+            choice(x, "late any from a;", 1);
+            x.restore(0);
+            Check.is("the same as kept", x.choice(), want[i]);
+            choice(x, last[i] + idle.repeat(9), want[i]);
+            choice(x, idle.repeat(4) + last[i] + idle.repeat(4) + "late any;", want[i]);
+        }
     }
 
     /** All kinds turn up in this run; by each kind's PATTERN the first way with such a letter is taken, else the first. */

@@ -191,6 +191,7 @@ public final class BoundsOfTreesTest {
         Check.is("none yet", x.fragment(0, 3), 0);
         x.take(1);
         Check.is("a alone has level 1", x.node(0, 1) * 10 + x.node(1, 1), 10);
+        Check.is("the highest of all", x.now(5), 1);
         Check.is("that of a", x.fragment(1, 3), 1);
         Check.is("that of a", x.fragment(0, 3), 1);
         Check.is("c's own", x.fragment(2, 3), 0);
@@ -374,10 +375,12 @@ public final class BoundsOfTreesTest {
             "node a;node b;node c;node d;node e;node f;edge a b 1;edge b c 2;edge a c 5;edge d e 1;edge e f 2;edge d f 4;",
             // the edge of the least number comes in, though it is heavier than the other one that could
             "node a;node b;node c;node d;node e;node f;edge a c 8;edge a b 1;edge b c 6;edge d e 1;edge e f 2;edge d f 4;",
+            // the one of the greater number adds more
+            "node a;node b;node c;node d;node e;node f;edge a b 1;edge b c 2;edge a c 4;edge d e 1;edge e f 2;edge d f 5;",
             // a path of like ones: the last in order goes out
             "node a;node b;node c;node d;edge c d 4;edge a b 4;edge b c 4;edge a d 6;",
             "node a;node b;node c;node d;edge b c 4;edge c d 3;edge a b 4;edge a d 6;"};
-        int[][] want = {{9, 1, 2}, {8, 1, 2}, {8, 4, 5}, {12, 2, 0}, {14, 2, 3}, {13, 2, 3}};
+        int[][] want = {{9, 1, 2}, {8, 1, 2}, {8, 4, 5}, {12, 2, 0}, {8, 1, 2}, {14, 2, 3}, {13, 2, 3}};
         for (int i = 0; i < nets.length; i++) {
             AskingFragments x = Check.with(nets[i]);
             Check.is("next of " + i, x.next(), want[i][0]);

@@ -10,6 +10,7 @@ public final class BoundsOfWholesTest {
         untilGoesByTheRule();
         startsAnswers();
         startsAsInAgain();
+        startsOfEachNode();
         startsAreSentNotTaken();
         starterAnswers();
         starterOfLikeOnes();
@@ -104,6 +105,21 @@ public final class BoundsOfWholesTest {
             y.steps(250);
             Check.is("starts(" + n + ")", due, y.now(0));
         }
+    }
+
+    static void startsOfEachNode() {
+        Check.of("30, 31: another number for another NODE, whoever is awake");
+        AskingFragments x = Check.with("node a;node b;node c;node d;edge a b 2;edge b c 2;edge b d 1;");
+        int[] due = {16, 16, 14, 16};
+        for (int n = 0; n < 4; n++) {
+            for (int m = 0; m < 4; m++) Check.is("starts(" + m + ")", x.starts(m), due[m]);
+            Check.is("starter()", x.starter(), 2);
+            x.wake(n);
+        }
+        Check.is("with all awake", x.until() + x.now(0) - x.now(1), 14);
+        x.steps(250);
+        for (int m = 0; m < 4; m++) Check.is("starts(" + m + ") in the end", x.starts(m), due[m]);
+        Check.is("starter() in the end", x.starter(), 2);
     }
 
     static void startsAreSentNotTaken() {

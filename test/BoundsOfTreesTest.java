@@ -2,6 +2,7 @@
 public final class BoundsOfTreesTest {
     static final String TRIANGLE = "node a;node b;node c;edge a b 1;edge b c 2;edge a c 3;";
     static final String ALIKE = "node a;node b;node c;edge a b 3;edge b c 3;edge a c 3;";
+    static final String PAIRS = "node a;node b;node c;node d;edge a b 5;edge c d 5;";
     static final String APART = "node a;node b;node c;node d;node e;edge a b 9;edge b c 1;edge c a 5;edge d e 7;";
     static final String WIDE = "node a;node b;node c;node d;node e;node f;node g;edge a b 7;edge b c 3;edge c d 9;edge d e 4;edge e f 8;edge f g 3;edge g a 5;"
         + "edge a c 7;edge b d 3;edge c e 3;edge d f 6;edge e g 8;";
@@ -28,6 +29,7 @@ public final class BoundsOfTreesTest {
         nextAnswers();
         nextOfLikeOnes();
         nextByAnswers();
+        smallerThanBefore();
         Check.close();
     }
 
@@ -386,6 +388,56 @@ public final class BoundsOfTreesTest {
             Check.is("next of " + i, x.next(), want[i][0]);
             Check.is("goes out of " + i, x.nextBy(0), want[i][1]);
             Check.is("comes in of " + i, x.nextBy(1), want[i][2]);
+        }
+    }
+
+    /** All that the trees and FRAGMENTS tell; next() with what it leaves. */
+    static String trees(AskingFragments x) {
+        StringBuilder b = new StringBuilder(" limit=").append(x.limit()).append(" starter=").append(x.starter());
+        for (int w = 0; w < 3; w++) b.append(" least").append(w).append('=').append(x.least(w));
+        for (int n = 0; n < x.count(0); n++) {
+            for (int w = 0; w < 5; w++) b.append(" fragment").append(n).append('.').append(w).append('=').append(x.fragment(n, w));
+            for (int m = 0; m < x.count(0); m++) b.append(" heaviest=").append(x.heaviest(n, m));
+            b.append(" starts=").append(x.starts(n));
+        }
+        for (int e = 0; e < x.count(1); e++) b.append(" slack=").append(x.slack(e)).append(" cores=").append(x.cores(e, 2, 5));
+        return b.append(" next=").append(x.next()).toString();
+    }
+
+    static AskingFragments crowded() {
+        StringBuilder b = new StringBuilder(BoundsOfTextsTest.nodes(12));
+        for (int i = 0, told = 0; i < 12; i++) {
+            for (int j = 11; j > i && told < 30; j--, told++) b.append("edge ").append((char) ('a' + j)).append(' ').append((char) ('a' + i)).append(' ').append(1 + (7 * told) % 5).append(';');
+        }
+        AskingFragments x = Check.with(b.toString());
+        for (int n = 0; n < 12; n++) x.wake(n);
+        x.steps(250);
+        Check.is("all joined", x.now(7), 1);
+        trees(x);
+        return x;
+    }
+
+    static void smallerThanBefore() {
+        Check.of("4: the tape is the NET now: nothing of a greater one before it is left; 37: They are as kept");
+        String[] nets = {"", "node a;", "node a;node b;", PAIRS, TRIANGLE, ALIKE, APART, WIDE, "node a;node b;node c;node d;edge d c 99;edge b a 99;"};
+        for (String net : nets) {
+            AskingFragments x = crowded(), y = Check.with(net), z = Check.with(net);
+            Check.is("net", Check.net(x, net), y.count(0) + y.count(1));
+            Check.is("kept", z.image(1), true);
+            Check.is("a greater one", Check.net(z, BoundsOfTextsTest.nodes(12) + BoundsOfTextsTest.edges(30)), 42);
+            trees(z);
+            Check.is("restored", z.restore(1), true);
+            for (int steps = 0; steps < 4; steps++) {
+                String world = Check.world(y), trees = trees(y);
+                Check.same("as a new object's", Check.world(x), world);
+                Check.same("as a new object's", trees(x), trees);
+                Check.same("as one's that was not restored", Check.world(z), world);
+                Check.same("as one's that was not restored", trees(z), trees);
+                for (AskingFragments one : new AskingFragments[] {x, y, z}) {
+                    one.wake(steps);
+                    one.steps(3 + 5 * steps * steps);
+                }
+            }
         }
     }
 
